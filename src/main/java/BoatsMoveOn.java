@@ -241,10 +241,11 @@ public final class BoatsMoveOn {
   }
 
   public int look(int boat, int day, int k, int what) {
-    boolean asked = isLeastOrMost(what) && isDay(day);
-    if (!asked || !hasJourneys(boat, k) || !journeys.hasDay(day)) {
+    boolean asked = (what == 0 || what == 1) && isDay(day);
+    if (!asked || !hasJourneys(boat, k)) {
       return NONE;
     }
+    // On a day that is none of its journeys' there is no candidate.
     int candidates = journeys.places[day];
     int bestPlace = NONE;
     int bestDoubt = NONE;
@@ -612,7 +613,9 @@ public final class BoatsMoveOn {
     }
 
     private void layWays(int base, int closed) {
-      Arrays.fill(distances, base, base + PAIRS, NO_WAY);
+      for (int pair = 0; pair < PAIRS; pair++) {
+        distances[base + pair] = NO_WAY;
+      }
       for (int place = 0; place < places; place++) {
         distances[base + place * PLACES + place] = 0;
       }
@@ -822,10 +825,6 @@ public final class BoatsMoveOn {
       return allowed[day] != ANYWHERE;
     }
 
-    boolean hasDay(int day) {
-      return first != NONE && first <= day && day <= last;
-    }
-
     int days() {
       return last - first + 1;
     }
@@ -913,7 +912,6 @@ public final class BoatsMoveOn {
     }
 
     int atMost() {
-      Arrays.fill(before, 0);
       int most = 0;
       for (int day = journeys.first; day <= journeys.last; day++) {
         for (int place = 0; place < canal.places; place++) {
@@ -942,7 +940,6 @@ public final class BoatsMoveOn {
 
     /** Whether some journey has no stay longer than the limit. */
     boolean canKeepTo(int limit) {
-      Arrays.fill(before, 0);
       boolean can = true;
       for (int day = journeys.first; day <= journeys.last && can; day++) {
         can = false;
@@ -1239,9 +1236,7 @@ public final class BoatsMoveOn {
       advance();
       readJoined(text, isAsked ? EITHER : SUM, 0);
       text.close(clause);
-      if (kind != Kind.SEMICOLON) {
-        blame(CANT_STAND);
-      }
+      demand(Kind.SEMICOLON);
       advance();
     }
 
@@ -1268,7 +1263,8 @@ public final class BoatsMoveOn {
 
     private void readAsk(Text text, int depth) {
       if (kind == Kind.NOT) {
-        if (opens(depth)) {
+        if (mayOpen(depth)) {
+          advance();
           readAsk(text, depth + 1);
           text.add(Kind.NOT, 0);
         }
@@ -1288,51 +1284,51 @@ public final class BoatsMoveOn {
     }
 
     private void readOne(Text text, int depth) {
-      if (kind == Kind.NUMBER) {
-        readOperand(text, number > GREATEST_NUMBER ? TOO_GREAT : 0);
-      } else if (Kind.isName(kind)) {
-        readOperand(text, Kind.isNameOf(kind, clause) ? 0 : NOT_OF_CLAUSE);
-      } else if (kind == Kind.MINUS) {
-        if (opens(depth)) {
+      if (kind == Kind.MINUS) {
+        if (mayOpen(depth)) {
+          advance();
           readOne(text, depth + 1);
           text.add(Kind.NEGATE, 0);
         }
-      } else if (kind == Kind.OPEN) {
-        if (opens(depth)) {
-          readJoined(text, SUM, depth + 1);
-          readClose();
-        }
-      } else {
-        blame(CANT_STAND);
-      }
-    }
-
-    private void readOperand(Text text, int itsFault) {
-      if (itsFault != 0) {
-        blame(itsFault);
         return;
       }
-      text.add(kind, kind == Kind.NUMBER ? number : 0);
-      advance();
-    }
-
-    private void readClose() {
-      if (kind != Kind.CLOSE) {
-        blame(CANT_STAND);
+      if (kind == Kind.OPEN) {
+        if (mayOpen(depth)) {
+          advance();
+          readJoined(text, SUM, depth + 1);
+          demand(Kind.CLOSE);
+        }
+      } else if (isOperand()) {
+        text.add(kind, kind == Kind.NUMBER ? number : 0);
       }
       if (fault == 0) {
         advance();
       }
     }
 
-    /** Goes behind a token that opens something, unless too much is open around it. */
-    private boolean opens(int depth) {
+    private boolean isOperand() {
+      boolean isNumber = kind == Kind.NUMBER;
+      if (!isNumber && !Kind.isName(kind)) {
+        blame(CANT_STAND);
+      } else if (isNumber && number > GREATEST_NUMBER) {
+        blame(TOO_GREAT);
+      } else if (!isNumber && !Kind.isNameOf(kind, clause)) {
+        blame(NOT_OF_CLAUSE);
+      }
+      return fault == 0;
+    }
+
+    private boolean mayOpen(int depth) {
       if (depth >= DEEPEST) {
         blame(TOO_DEEP);
-        return false;
       }
-      advance();
-      return true;
+      return fault == 0;
+    }
+
+    private void demand(int what) {
+      if (kind != what) {
+        blame(CANT_STAND);
+      }
     }
 
     private static int levelOf(int kind) {

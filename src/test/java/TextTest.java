@@ -7,6 +7,9 @@ public final class TextTest {
     feeding(due);
     ending(due);
     byteOrder(due);
+    cutTapes(due);
+    fullTapes(due);
+    manyFaultsAhead(due);
     fourTexts(due);
     faultsAsked(due);
     validTexts(due);
@@ -70,6 +73,53 @@ public final class TextTest {
     due.is("it is need without a sum", x.fault(1), 23);
   }
 
+  /** What end has cut off is not read, even if a token would go on there. */
+  private static void cutTapes(Due due) {
+    BoatsMoveOn x = new BoatsMoveOn();
+    Due.tape(x, "stays 1;");
+    x.end(4);
+    due.is("stay alone", x.text(), -1);
+    due.is("it is the end that can't stand", x.fault(1), 4);
+    Due.tape(x, "stay 10000;");
+    x.end(9);
+    due.is("stay 1000", x.text(), -1);
+    due.is("it isn't too great", x.fault(0), 1);
+    due.is("it is the end that can't stand", x.fault(1), 9);
+    Due.tape(x, "near 1<=2;");
+    x.end(7);
+    due.is("near 1<", x.text(), -1);
+    due.is("it is the end that can't stand", x.fault(1), 7);
+  }
+
+  private static void fullTapes(Due due) {
+    for (String last : new String[] {"a", "near", "1", "10000", "<", ">", ";", "(", " ", "\n"}) {
+      String text = " ".repeat(300 - last.length()) + last;
+      boolean blank = last.isBlank();
+      int at = last.equals("near") ? 300 : 300 - last.length();
+      due.fault(text, blank ? 0 : 1, blank ? -1 : at);
+    }
+    String full = "near 1=1" + " or 1=2 and 1=2".repeat(19);
+    due.fault(full + " ".repeat(299 - full.length()) + ";", 0, -1);
+    due.fault("stay " + "1+".repeat(146) + "10;", 0, -1);
+    due.fault("stay " + "1+".repeat(147) + "1", 1, 300);
+    due.fault("stay 1" + "0".repeat(294), 2, 5);
+    due.fault("stay " + "0".repeat(294) + "1", 1, 300);
+  }
+
+  /** However much was read in vain, the next text is whole. */
+  private static void manyFaultsAhead(Due due) {
+    BoatsMoveOn x = new BoatsMoveOn();
+    x.place(0);
+    x.place(0);
+    for (int i = 0; i < 9; i++) {
+      due.is("in vain", Due.tell(x, "near 1" + "+1".repeat(140) + "=1;near"), -1);
+    }
+    due.is("text", Due.tell(x, "near 1" + "+1".repeat(140) + "=141;"), 0);
+    due.is("round", x.round(0, 0), 3);
+    due.is("text", Due.tell(x, "near 1" + "+1".repeat(140) + "=140;"), 1);
+    due.is("round", x.round(1, 0), 1);
+  }
+
   private static void fourTexts(Due due) {
     BoatsMoveOn x = new BoatsMoveOn();
     x.place(0);
@@ -115,6 +165,7 @@ public final class TextTest {
     due.fault("near here=there;", 0, -1);
     due.fault("stay 9999;", 0, -1);
     due.fault("stay 0000009999;", 0, -1);
+    due.fault("stay 0;need 8090;", 0, -1);
     due.fault("need days;stay parish*here;excuse day>3;near miles<=5;", 0, -1);
     due.fault("near\nnot\nhere<there or 1>=2 and 3#4 or not not 5=5;", 0, -1);
     due.fault("near here+1-2*3/4 > -(1--2) ;", 0, -1);
@@ -125,6 +176,13 @@ public final class TextTest {
   private static void cantStand(Due due) {
     due.fault("x", 1, 0);
     due.fault("Near 1=1;", 1, 0);
+    for (char letter : "azAZmM".toCharArray()) {
+      due.fault("stay" + letter + " 1;", 1, 0);
+      due.fault(letter + "stay 1;", 1, 0);
+    }
+    for (char sign : "@[`{".toCharArray()) {
+      due.fault("stay" + sign + " 1;", 1, 4);
+    }
     due.fault("nearhere=1;", 1, 0);
     due.fault(";", 1, 0);
     due.fault("12", 1, 0);
