@@ -206,7 +206,7 @@ public final class BoatsMoveOn {
   }
 
   public int longest(int boat, int place, int rule, int k, int what) {
-    boolean asked = isPlace(place) && isRule(rule) && isLeastOrMost(what);
+    boolean asked = isPlace(place) && isRule(rule) && isZeroOrOne(what);
     if (!asked || !hasJourneys(boat, k)) {
       return NONE;
     }
@@ -216,7 +216,7 @@ public final class BoatsMoveOn {
   }
 
   public int far(int boat, int k, int what) {
-    if (!isLeastOrMost(what) || !hasJourneys(boat, k)) {
+    if (!isZeroOrOne(what) || !hasJourneys(boat, k)) {
       return NONE;
     }
     return what == 0 ? journeys.leastMiles() : journeys.mostMiles();
@@ -241,7 +241,7 @@ public final class BoatsMoveOn {
   }
 
   public int look(int boat, int day, int k, int what) {
-    boolean asked = (what == 0 || what == 1) && isDay(day);
+    boolean asked = isZeroOrOne(what) && isDay(day);
     if (!asked || !hasJourneys(boat, k)) {
       return NONE;
     }
@@ -292,7 +292,7 @@ public final class BoatsMoveOn {
   }
 
   public int crowd(int place, int day, int k, int what) {
-    if (!isPlace(place) || !isDay(day) || !isDay(k) || (what != 0 && what != 1)) {
+    if (!isPlace(place) || !isDay(day) || !isDay(k) || !isZeroOrOne(what)) {
       return NONE;
     }
     int count = 0;
@@ -334,9 +334,9 @@ public final class BoatsMoveOn {
     }
     trace(journeys, one, k, LAST_DAY);
     trace(othersJourneys, other, k, LAST_DAY);
-    boolean asItIs = !journeys.isImpossible() && !othersJourneys.isImpossible();
+    boolean somethingWrong = journeys.isImpossible() || othersJourneys.isImpossible();
     int count = 0;
-    for (int day = 0; day < DAYS && !asItIs; day++) {
+    for (int day = 0; day < DAYS && somethingWrong; day++) {
       if (!mendsBoth(day)) {
         continue;
       }
@@ -411,7 +411,7 @@ public final class BoatsMoveOn {
     return isDay(from) && isDay(to) && from <= to;
   }
 
-  private static boolean isLeastOrMost(int what) {
+  private static boolean isZeroOrOne(int what) {
     return what == 0 || what == 1;
   }
 
