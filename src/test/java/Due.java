@@ -1,4 +1,5 @@
 import java.nio.charset.StandardCharsets;
+import java.util.List;
 
 /** Counts the answers of one test that are not the ones that are due. */
 final class Due {
@@ -24,8 +25,16 @@ final class Due {
     is(call, got ? 1 : 0, want ? 1 : 0);
   }
 
+  void is(String call, List<Integer> got, List<Integer> want) {
+    is(call + " " + got + " like " + want, got.equals(want), true);
+  }
+
   int wrong() {
     return wrong;
+  }
+
+  int asked() {
+    return asked;
   }
 
   /** Ends the program with exit code 1 if an answer was wrong, or if nothing was asked. */
