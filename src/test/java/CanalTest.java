@@ -182,7 +182,7 @@ public final class CanalTest {
     due.is("nine ways back", y.miles(0, 9, 0), 270);
   }
 
-  /** Ten spans of ten ways, no two of which begin or end on one day: the most unlike days. */
+  /** Ten spans of ten ways, each within the one ahead of it. */
   private static void milesOfEachDay(Due due) {
     BoatsMoveOn x = new BoatsMoveOn();
     x.place(0);

@@ -228,6 +228,9 @@ final class GrammarEdges {
         ask(due, left + signs[sign] + "2", is);
         ask(due, (left - 2) + signs[sign] + "0", is);
         ask(due, "-" + (4 - left) + signs[sign] + "-2", is);
+        ask(due, "not " + left + signs[sign] + "2", !is);
+        ask(due, left + signs[sign] + "2 and 1=1", is);
+        ask(due, "1=2 or " + left + signs[sign] + "2", is);
       }
     }
     due.fault("near 1=1=1;", 1, 8);
@@ -358,13 +361,22 @@ final class GrammarEdges {
     x.seen(0, 0, 59, 59);
     Due.tell(x, "excuse day = 0;");
     Due.tell(x, "excuse day = 59 or day < 0 or day > 59;");
-    Due.tell(x, "need days - 1;");
-    Due.tell(x, "need days - 60;");
     due.is("day 0 is one", x.longest(0, 0, 0, 59, 1), 59);
     due.is("day 59 is one", x.longest(0, 0, 1, 59, 1), 59);
-    due.is("one day: need 0", x.shortOf(0, 2, 58), 0);
-    due.is("sixty days: need 59", x.shortOf(0, 2, 59), 2);
-    due.is("sixty days: need 0", x.shortOf(0, 3, 59), 0);
+    // A mile from each day to the next, so that it goes one less than it has days.
+    BoatsMoveOn y = Scene.row(2, 1, 1, 2);
+    Due.tell(y, "need days - 1;");
+    Due.tell(y, "need days;");
+    for (int day = 5; day < 60; day++) {
+      y.seen(0, day % 2, day, day);
+    }
+    Scene.seenDaily(y, 1, 50, 0, 1, 0, 1, 0);
+    due.is("five days from 50 on: need 4", y.shortOf(1, 0, 59), 0);
+    due.is("five days from 50 on: need 5", y.shortOf(1, 1, 59), 2);
+    due.is("one day: need 0", y.shortOf(1, 0, 50), 0);
+    due.is("one day: need 1", y.shortOf(1, 1, 50), 2);
+    due.is("55 days from 5 on: need 54", y.shortOf(0, 0, 59), 0);
+    due.is("55 days from 5 on: need 55", y.shortOf(0, 1, 59), 2);
     due.fault("stay day;", 5, 5);
     due.fault("near day = 1;", 5, 5);
     due.fault("excuse days = 1;", 5, 7);

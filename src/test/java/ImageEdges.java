@@ -24,6 +24,7 @@ final class ImageEdges {
     edges.promise(29, BACK, ImageEdges::eachThingComesBack);
     edges.promise(29, BACK, ImageEdges::itStays);
     edges.promise(29, BACK, ImageEdges::lettersComeBack);
+    edges.promise(29, BACK, ImageEdges::lettersOfAllBoatsComeBack);
     edges.promise(30, ABOUT, ImageEdges::allEmptyAndFull);
     edges.promise(30, ABOUT, ImageEdges::stepsAndDays);
     edges.promise(30, "-2 for others.", ImageEdges::aboutOthers);
@@ -220,6 +221,37 @@ final class ImageEdges {
     due.is("by the old rule, with one", x.appeal(0, 59), 1);
     due.is("the day of the first", x.about(20), 1);
     due.is("by the old rule, with one", x.appeal(0, 59), 0);
+  }
+
+  /** The letters of each boat, with their days and rules, all three of each. */
+  private static void lettersOfAllBoatsComeBack(Due due) {
+    BoatsMoveOn x = Scene.still(8);
+    Due.tell(x, "need 0; stay 0;");
+    for (int boat = 0; boat < 8; boat++) {
+      x.seen(boat, 0, 0, 0);
+      for (int letter = 0; letter < 3; letter++) {
+        x.send(boat, 0, boat + 14 * letter);
+      }
+    }
+    x.image();
+    for (int boat = 0; boat < 8; boat++) {
+      x.excuse(boat, 0, 0, 0);
+      for (int letter = 0; letter < 3; letter++) {
+        x.appeal(boat, 59);
+      }
+      x.send(boat, -1, 8);
+      x.send(boat, -1, 22);
+      x.send(boat, -1, 59);
+    }
+    x.back();
+    for (int boat = 0; boat < 8; boat++) {
+      due.is("three letters of boat " + boat, x.about(10 + boat), 3);
+      x.excuse(boat, 0, 0, 0);
+      for (int letter = 2; letter >= 0; letter--) {
+        due.is("the day of one", x.about(20 + boat), boat + 14 * letter);
+        due.is("by its rule it is taken back", x.appeal(boat, 59), letter);
+      }
+    }
   }
 
   private static void allEmptyAndFull(Due due) {

@@ -90,6 +90,8 @@ final class JourneyEdges {
     y.way(9, 0, 30);
     due.is("shorter the other way round", y.miles(59, 9, 0), 30);
     due.is("half of the ring", y.miles(59, 0, 5), 150);
+    due.is("over the first place", y.miles(59, 1, 9), 60);
+    due.is("over the last place", y.miles(59, 0, 8), 60);
   }
 
   private static void nothingBeingShut(Due due) {
@@ -462,6 +464,7 @@ final class JourneyEdges {
       due.is("behind the last day", x.look(0, 13, 12, what), -1);
       due.is("behind the last known one", x.look(0, 11, 11, what), -1);
       due.is("never seen", x.look(1, 10, 12, what), -1);
+      due.is("never seen, on day 0", x.look(1, 0, 12, what), -1);
       due.is("not known yet", x.look(0, 10, 9, what), -1);
       due.is("on the first day", x.look(0, 10, 12, what), 0);
       due.is("on the last day", x.look(0, 12, 12, what), 0);

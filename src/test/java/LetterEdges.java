@@ -244,8 +244,9 @@ final class LetterEdges {
   private static void cantBeSent(Due due) {
     BoatsMoveOn x = fiveDays();
     List<Integer> before = Scene.counts(x);
-    due.is("never seen", x.send(1, 0, 10), -1);
     due.is("not broken", x.send(0, 0, 0), -1);
+    due.is("never seen", x.send(1, 0, 10), -1);
+    due.is("never seen, without a rule", x.send(1, -1, 10), -1);
     x.image();
     x.seen(0, 1, 2, 9);
     due.is("impossible", x.send(0, 0, 9), -1);

@@ -145,6 +145,16 @@ final class MeetingEdges {
     x.seen(0, 1, 1, 9);
     x.seen(1, 1, 7, 9);
     tied(due, "what isn't common doesn't matter", x, 9, 1);
+    BoatsMoveOn y = Scene.row(4, 4, 4, 2);
+    Scene.seenDaily(y, 0, 10, 0, 1, 2, 3);
+    Scene.seenDaily(y, 1, 10, 0, 1, 2, 3);
+    tied(due, "at another place on each day", y, 59, 1);
+    BoatsMoveOn z = Scene.row(4, 4, 4, 2);
+    z.seen(0, 0, 10, 10);
+    z.seen(0, 3, 14, 14);
+    z.seen(1, 0, 10, 10);
+    z.seen(1, 3, 13, 13);
+    tied(due, "moving on together", z, 59, 1);
   }
 
   private static void journeysOfEach(Due due) {
@@ -204,6 +214,14 @@ final class MeetingEdges {
     tied(due, "one is impossible", x, 13, -1);
     x.seen(0, 1, 11, 14);
     tied(due, "both are impossible", x, 14, -1);
+    // Behind two that could be told of, too.
+    BoatsMoveOn y = Scene.still(3);
+    y.seen(0, 0, 10, 10);
+    y.seen(1, 0, 10, 10);
+    due.is("tied", y.tied(0, 1, 59), 1);
+    due.is("one was never seen", y.tied(0, 2, 59), -1);
+    due.is("one was never seen", y.tied(2, 0, 59), -1);
+    tied(due, "neither is known on 9", y, 9, -1);
   }
 
   private static void wrongTies(Due due) {

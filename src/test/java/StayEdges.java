@@ -251,6 +251,13 @@ final class StayEdges {
     y.seen(0, 1, 59, 59);
     longest(due, y, 1, -1, 60);
     longest(due, y, 0, -1, 0);
+    // 0 0 1 2, 0 1 1 2 or 0 1 2 2: never 0 0 2 2.
+    BoatsMoveOn z = Scene.row(3, 4, 4, 1);
+    z.seen(0, 0, 0, 0);
+    z.seen(0, 2, 3, 3);
+    Due.tell(z, "near here + there = 2;");
+    due.is("each journey is at 1", z.longest(0, 1, -1, 3, 0), 1);
+    due.is("none stays at 0 and 2 for longer", z.longest(0, 0, 0, 3, 1), 2);
   }
 
   private static void milesOfTheLaterDay(Due due) {
@@ -283,6 +290,17 @@ final class StayEdges {
     x.seen(0, 2, 4, 4);
     due.is("and on: the least", x.far(0, 4, 0), 4);
     due.is("and on: the most", x.far(0, 4, 1), 12);
+    // 0 and 2 are too far from each other for one day, though it may be at either on both.
+    BoatsMoveOn y = Scene.row(3, 4, 4, 1);
+    y.seen(0, 1, 0, 0);
+    y.seen(0, 1, 3, 3);
+    due.is("may on 1", y.may(0, 1, 3), 7);
+    due.is("may on 2", y.may(0, 2, 3), 7);
+    due.is("no journey goes from 0 to 2", y.far(0, 3, 1), 8);
+    BoatsMoveOn z = Scene.row(3, 4, 4, 1);
+    z.seen(0, 0, 0, 0);
+    z.seen(0, 2, 3, 3);
+    due.is("each goes over 1", z.far(0, 3, 1), 8);
   }
 
   private static void mostAndLeastOfNeed(Due due) {
@@ -377,6 +395,7 @@ final class StayEdges {
     x.seen(0, 0, 10, 10);
     due.is("not known yet", x.over(0, 0, -1, 9), -1);
     due.is("known", x.over(0, 0, -1, 10), 0);
+    due.is("another one was never seen", x.over(1, 0, -1, 59), -1);
     x.seen(0, 1, 11, 11);
     due.is("impossible", x.over(0, 0, -1, 11), -1);
     for (int boat : new int[] {-1, 2, 8, MIN, MAX}) {
@@ -412,6 +431,7 @@ final class StayEdges {
     x.seen(0, 0, 10, 10);
     due.is("not known yet", x.longest(0, 0, -1, 9, 0), -1);
     due.is("known", x.longest(0, 0, -1, 10, 0), 1);
+    due.is("another one was never seen", x.longest(1, 0, -1, 59, 0), -1);
     x.seen(0, 1, 11, 11);
     for (int what = 0; what <= 1; what++) {
       due.is("impossible", x.longest(0, 0, -1, 11, what), -1);
@@ -451,6 +471,7 @@ final class StayEdges {
     x.seen(0, 0, 10, 10);
     due.is("not known yet", x.far(0, 9, 0), -1);
     due.is("known", x.far(0, 10, 0), 0);
+    due.is("another one was never seen", x.far(1, 59, 1), -1);
     x.seen(0, 1, 11, 11);
     for (int what = 0; what <= 1; what++) {
       due.is("impossible", x.far(0, 11, what), -1);
@@ -483,6 +504,7 @@ final class StayEdges {
     x.seen(0, 0, 10, 10);
     due.is("not known yet", x.shortOf(0, -1, 9), -1);
     due.is("known", x.shortOf(0, -1, 10), 2);
+    due.is("another one was never seen", x.shortOf(1, -1, 59), -1);
     x.seen(0, 1, 11, 11);
     due.is("impossible", x.shortOf(0, -1, 11), -1);
     for (int boat : new int[] {-1, 2, 8, MIN, MAX}) {
@@ -514,6 +536,7 @@ final class StayEdges {
     x.seen(0, 0, 10, 10);
     due.is("not known yet", x.broken(0, -1, 9), -1);
     due.is("known", x.broken(0, -1, 10), 1);
+    due.is("another one was never seen", x.broken(1, -1, 59), -1);
     x.seen(0, 1, 11, 11);
     due.is("impossible", x.broken(0, -1, 11), -1);
     for (int boat : new int[] {-1, 2, 8, MIN, MAX}) {

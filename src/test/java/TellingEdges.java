@@ -50,6 +50,9 @@ final class TellingEdges {
     edges.term(
         "SHUT (10 at most): a WAY from a DAY to a DAY (both shut, too).",
         TellingEdges::bothEndsShut);
+    edges.term(
+        "SHUT (10 at most): a WAY from a DAY to a DAY (both shut, too).",
+        TellingEdges::tenUnlikeSpans);
     edges.term("DAYS 0 .. 59.", TellingEdges::daysOfTelling);
     edges.term("DAYS 0 .. 59.", TellingEdges::daysOfAsking);
     edges.term("PACE (1 .. 60 MILES a DAY; at first 10).", TellingEdges::paceAtFirst);
@@ -125,6 +128,7 @@ final class TellingEdges {
       due.is("a refused one takes no number", x.place(10), -1);
       due.is("place " + i, x.place(9 - i), i);
       due.is("round place " + i, x.round(-1, i), 1 << i);
+      due.is("it is a place of miles at once", x.miles(0, i, i), 0);
     }
     Due.tell(x, "near theirs = 0 or theirs = 9;");
     due.is("the first has parish 9, the last 0", x.round(0, 0), 1 | 1 << 9);
@@ -241,6 +245,23 @@ final class TellingEdges {
     due.is("the tenth", x.shut(0, 40, 41), 10);
     due.is("is one", x.miles(40, 0, 1), -1);
     due.is("from its first to its last day", x.miles(41, 0, 1), -1);
+  }
+
+  /** Ten spans that begin and end one behind the other: no days can be unlike more often. */
+  private static void tenUnlikeSpans(Due due) {
+    BoatsMoveOn x = Scene.row(10, 5, 10, 0);
+    x.way(0, 1, 7);
+    for (int way = 0; way < 10; way++) {
+      x.shut(way, 2 + 2 * way, 31 + 2 * way);
+    }
+    for (int day = 0; day < 60; day += 2) {
+      for (int place = 0; place < 9; place++) {
+        boolean isShut = day >= 2 + 2 * place && day <= 31 + 2 * place;
+        boolean otherIsShut = place > 0 || (day >= 20 && day <= 49);
+        int want = !isShut ? 5 : !otherIsShut ? 7 : -1;
+        due.is("miles from " + place + " on " + day, x.miles(day, place, place + 1), want);
+      }
+    }
   }
 
   private static void fromAtMostTo(Due due) {

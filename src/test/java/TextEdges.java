@@ -170,6 +170,15 @@ final class TextEdges {
     due.is("text 0 is as it was", x.round(0, 0), 3);
     due.is("the next one has the next number", Due.tell(x, "stay 1;"), 1);
     due.is("and nothing of those that had a fault", x.round(1, 0), 1);
+    String sum = "1" + "+1".repeat(140);
+    for (int i = 0; i < 4; i++) {
+      due.is("a long one in vain", Due.tell(x, "near " + sum + "=1; near"), -1);
+    }
+    due.is("as long a one without a fault", Due.tell(x, "near " + sum + "=141;"), 2);
+    due.is("is whole", x.round(2, 0), 3);
+    due.is("more of it in vain", Due.tell(x, "near not 1=1; near"), -1);
+    due.is("less of it without a fault", Due.tell(x, "near 1=1;"), 3);
+    due.is("ends where it ends", x.round(3, 0), 3);
   }
 
   private static void fifthText(Due due) {
