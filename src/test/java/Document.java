@@ -33,6 +33,17 @@ final class Document {
     return cut;
   }
 
+  /** The methods of the public face ("int place(int parish)"); none if the document isn't there. */
+  static List<String> face() throws IOException {
+    List<String> methods = new ArrayList<>();
+    for (String line : isThere() ? Files.readAllLines(PATH) : List.<String>of()) {
+      if (line.matches("    public \\w+ \\w+\\(.*\\);")) {
+        methods.add(line.replace("public ", "").replace(";", "").strip());
+      }
+    }
+    return methods;
+  }
+
   /** A sentence ends with a full stop that isn't one of two, as those of a range (0 .. 9) are. */
   private static List<String> cut(String chapter) {
     String plain = chapter.replaceAll("\\s+", " ").trim();

@@ -30,12 +30,22 @@ public final class FaceTest {
 
   public static void main(String[] args) throws Exception {
     Due due = new Due("FaceTest");
+    faceOfTheDocument(due);
     face(due);
     nested(due);
     source(due);
     wildArguments(due);
     fullObject(due);
     due.close();
+  }
+
+  private static void faceOfTheDocument(Due due) throws IOException {
+    TreeSet<String> found = new TreeSet<>();
+    for (String method : Document.face()) {
+      found.add(method.replaceAll("int \\w+(?=[,)])", "int").replace(", ", ","));
+    }
+    boolean same = found.equals(new TreeSet<>(METHODS));
+    due.is("the document's methods are " + found, same || !Document.isThere(), true);
   }
 
   private static String signature(Method method) {
@@ -140,17 +150,21 @@ public final class FaceTest {
 
   private static void longestMethod(Due due, String code) {
     int begun = -1;
+    int found = 0;
     String[] lines = code.split("\n", -1);
-    String name = "";
+    String indent = "";
     for (int i = 0; i < lines.length; i++) {
-      if (lines[i].matches("(  |    )[\\w\\[\\]. ]+\\([^;]*\\) \\{")) {
+      if (begun < 0 && lines[i].matches("(  |    )\\w[\\w\\[\\]. ]*\\([^;]*\\) \\{")) {
         begun = i;
-        name = lines[i].trim();
-      } else if (begun >= 0 && lines[i].matches("(  |    )\\}")) {
+        found++;
+        indent = lines[i].substring(0, lines[i].length() - lines[i].stripLeading().length());
+      } else if (begun >= 0 && lines[i].equals(indent + "}")) {
+        String name = lines[begun].trim();
         due.is(name + " is longer than sixty lines", i - begun + 1 > 60, false);
         begun = -1;
       }
     }
+    due.is("methods were found and have an end: " + found, found > 100 && begun < 0, true);
   }
 
   /** No call may throw, whatever it is given and whatever was told. */
